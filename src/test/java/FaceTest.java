@@ -1,0 +1,116 @@
+import java.io.IOException;
+import java.lang.reflect.Constructor;
+import java.lang.reflect.Field;
+import java.lang.reflect.Method;
+import java.lang.reflect.Modifier;
+import java.nio.file.Files;
+import java.nio.file.Path;
+import java.util.Random;
+import java.util.TreeSet;
+
+/** The face and what can be seen of LANGUAGE.md, and calls with any arguments in any state. */
+public final class FaceTest {
+    private static final String FACE = "chosen count differ family feed judge look marry octet pack part person point points ran read write";
+
+    public static void main(String[] args) throws IOException {
+        members();
+        source();
+        for (int seed = 0; seed < 400; seed++) {
+            anything(new Random(seed));
+        }
+        Kit.end();
+    }
+
+    private static void members() {
+        TreeSet<String> shown = new TreeSet<>();
+        TreeSet<String> hidden = new TreeSet<>();
+        for (Method method : HeraldDesk.class.getDeclaredMethods()) {
+            (Modifier.isPrivate(method.getModifiers()) ? hidden : shown).add(method.getName());
+        }
+        Kit.due("public methods", String.join(" ", shown), FACE);
+        for (Class<?> inside : HeraldDesk.class.getDeclaredClasses()) {
+            Kit.due(inside + " is static", Modifier.isStatic(inside.getModifiers()), true);
+            Kit.due(inside + " has few fields", inside.getDeclaredFields().length <= 20, true);
+            for (Method method : inside.getDeclaredMethods()) {
+                hidden.add(method.getName());
+            }
+        }
+        hidden.retainAll(shown);
+        Kit.due("hidden methods with public names", hidden.toString(), "[]");
+        Kit.due("classes", HeraldDesk.class.getDeclaredClasses().length <= 11, true);
+        Constructor<?>[] constructors = HeraldDesk.class.getDeclaredConstructors();
+        Kit.due("constructors", constructors.length, 1);
+        for (Field field : HeraldDesk.class.getDeclaredFields()) {
+            boolean known = Modifier.isPrivate(field.getModifiers()) || field.getName().equals("NONE");
+            Kit.due(field + " is hidden", known, true);
+            Kit.due(field + " is final if it is static", !Modifier.isStatic(field.getModifiers()) || Modifier.isFinal(field.getModifiers()), true);
+        }
+        Kit.due("final", Modifier.isFinal(HeraldDesk.class.getModifiers()), true);
+    }
+
+    private static void source() throws IOException {
+        String code = Files.readString(Path.of("src/main/java/HeraldDesk.java")).replaceAll("(?s)/\\*.*?\\*/", "").replaceAll("\"[^\"]*\"", "\"\"");
+        for (String word : "throw try catch synchronized assert import package protected instanceof".split(" ")) {
+            Kit.due("the word " + word, code.matches("(?s).*\\b" + word + "\\b.*"), false);
+        }
+        Kit.due("lambdas and references", code.contains("->") || code.contains("::"), false);
+    }
+
+    private static int number(Random random) {
+        return switch (random.nextInt(6)) {
+            case 0 -> random.nextInt();
+            case 1 -> random.nextInt(270) - 10;
+            case 2 -> random.nextInt(70) - 2;
+            case 3 -> Kit.pick(random, "a", "b").equals("a") ? Integer.MIN_VALUE : Integer.MAX_VALUE;
+            default -> random.nextInt(6) - 1;
+        };
+    }
+
+    /** 512 calls of any kind; none may throw, and a second desk answers each the same. */
+    private static void anything(Random random) {
+        HeraldDesk one = new HeraldDesk();
+        HeraldDesk other = new HeraldDesk();
+        for (int i = 0; i < 512; i++) {
+            int which = random.nextInt(20);
+            int a = number(random);
+            int b = number(random);
+            int c = number(random);
+            int d = number(random);
+            String text = Kit.shield(random);
+            if (which >= 17) {
+                text = random.nextInt(3) > 0 ? text : "rule 0 for " + Kit.pick(random, Kit.KINDS) + ":next+" + random.nextInt(100) + ";";
+                int length = random.nextInt(8) > 0 ? text.length() : random.nextInt(text.length());
+                Kit.due("the same", call(one, which, a, b, length, text), call(other, which, a, b, length, text));
+            } else {
+                Kit.due("the same", call(one, which, a, b, c, d), call(other, which, a, b, c, d));
+            }
+        }
+    }
+
+    private static int call(HeraldDesk desk, int which, int a, int b, int length, String text) {
+        Kit.feed(desk, text.length() > 240 ? text.substring(0, 240) : text);
+        return text.startsWith("rule") ? desk.pack(a & 3, length) : desk.read(length);
+    }
+
+    private static int call(HeraldDesk desk, int which, int a, int b, int c, int d) {
+        return switch (which) {
+            case 0 -> desk.feed(a, b, c, d, a ^ b);
+            case 1 -> desk.read(a);
+            case 2 -> desk.pack(a, b);
+            case 3 -> desk.write(a);
+            case 4 -> desk.octet(a);
+            case 5 -> desk.look(a, b);
+            case 6 -> desk.judge(a, b, c);
+            case 7 -> desk.part(a, b, c, d);
+            case 8 -> desk.chosen(a, b, c);
+            case 9 -> desk.ran();
+            case 10 -> desk.point(a, b, c);
+            case 11 -> desk.points(a, b);
+            case 12 -> desk.differ(a, b);
+            case 13 -> desk.person((a & 1) == 0, b, c, d);
+            case 14 -> desk.marry(a, b) ? 1 : 0;
+            case 15 -> desk.family(a, b);
+            default -> desk.count(a);
+        };
+    }
+}
