@@ -910,25 +910,23 @@ public final class HeraldDesk {
         private static final int FIRST_PRODUCT_SIGN = 2;
 
         private final Tokens tokens;
-        private Pack draft = new Pack();
 
         PackReader(Tokens tokens) {
             this.tokens = tokens;
         }
 
         /** Fills a pack with the bodies told, or answers false if the text is refused. */
-        boolean fill(Pack empty) {
-            draft = empty;
+        boolean fill(Pack draft) {
             draft.clear();
             for (int i = 0; i < TAPE_SIZE && !tokens.atEnd(); i++) {
-                if (!readBody()) {
+                if (!readBody(draft)) {
                     return false;
                 }
             }
             return tokens.atEnd();
         }
 
-        private boolean readBody() {
+        private boolean readBody(Pack draft) {
             if (draft.isFull() || !tokens.takeWord("rule ")) {
                 return false;
             }
@@ -946,11 +944,11 @@ public final class HeraldDesk {
             }
             tokens.advance();
             draft.open(rule, kind);
-            return tokens.takeByte(':') && readExpression(0) && tokens.takeByte(';');
+            return tokens.takeByte(':') && readExpression(draft, 0) && tokens.takeByte(';');
         }
 
-        private boolean readExpression(int open) {
-            if (!readTerm(open)) {
+        private boolean readExpression(Pack draft, int open) {
+            if (!readTerm(draft, open)) {
                 return false;
             }
             for (int i = 0; i < TAPE_SIZE; i++) {
@@ -959,7 +957,7 @@ public final class HeraldDesk {
                     return true;
                 }
                 tokens.advance();
-                if (!readTerm(open)) {
+                if (!readTerm(draft, open)) {
                     return false;
                 }
                 draft.addStep(Pack.SIGNS_FROM + sign);
@@ -967,8 +965,8 @@ public final class HeraldDesk {
             return true;
         }
 
-        private boolean readTerm(int open) {
-            if (!readFactor(open)) {
+        private boolean readTerm(Pack draft, int open) {
+            if (!readFactor(draft, open)) {
                 return false;
             }
             for (int i = 0; i < TAPE_SIZE; i++) {
@@ -977,7 +975,7 @@ public final class HeraldDesk {
                     return true;
                 }
                 tokens.advance();
-                if (!readFactor(open)) {
+                if (!readFactor(draft, open)) {
                     return false;
                 }
                 draft.addStep(Pack.SIGNS_FROM + sign);
@@ -985,7 +983,7 @@ public final class HeraldDesk {
             return true;
         }
 
-        private boolean readFactor(int open) {
+        private boolean readFactor(Pack draft, int open) {
             int number = tokens.number(MOST_DIGITS);
             if (number != NONE) {
                 draft.addStep(number);
@@ -1000,7 +998,7 @@ public final class HeraldDesk {
             if (open >= MOST_OPEN || !tokens.takeByte('(')) {
                 return false;
             }
-            return readExpression(open + 1) && tokens.takeByte(')');
+            return readExpression(draft, open + 1) && tokens.takeByte(')');
         }
     }
 

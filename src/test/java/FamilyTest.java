@@ -47,6 +47,7 @@ public final class FamilyTest {
             Kit.due("no such two " + two[0] + " " + two[1], desk.person(true, two[0], two[1], 0), NONE);
         }
         Kit.due("PERSONS", desk.count(1), 3);
+        Kit.due("quartering 0, asked for first", desk.family(2, 100), 1);
         Kit.due("a child, whatever the shield", desk.person(true, 0, 1, 77), 3);
         Kit.due("another", desk.person(false, 0, 1, NONE), 4);
         Kit.due("children of the father", desk.family(0, 5), 2);

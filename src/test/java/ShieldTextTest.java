@@ -44,7 +44,7 @@ public final class ShieldTextTest {
             "or, a |part or", "or, a |ordinary or", "or, a |beast or", "or, a fess |", "or, a fess |charged", "or, a fess or |chargedwith",
             "or, a fess or charged |", "or, a fess or charged with |", "or, a fess or charged with a |fess or",
             "or, a fess or charged with |within", "or, a fess or charged with two roses or |charged with",
-            "or, a fess or, a |pale or", "or, a lion |or", "or, a lion |displayed or", "or, a eagle |rampant or", "or, a rose |close or",
+            "or, a fess or, a |pale or", "or, a lion |or", "or, a lion |displayed or", "or, a eagle |rampant or", "or, a eagle |sejant or", "or, a stag |close or", "or, a rose |close or",
             "or, a boar rampant |armed", "or, a lion rampant or |attired or", "or, a lion rampant or crowned or |armed or",
             "or, a lion rampant or armed or |armed or", "or, a lion rampant or armed |", "or, a lion rampant or armed |crowned",
             "or, a boar passant or |crowned or", "or, a martlet or |armed or", "or, a lion rampant or, |two roses or", "or, a lion rampant or, a |rose or",
@@ -55,6 +55,8 @@ public final class ShieldTextTest {
             "or, for difference a label |", "or, for difference a label or|,", "or, for difference a label or|, within a bordure or",
             "or|1", "or, |2 lions rampant or", "or|\0", "or|\t", "or|\377",
         };
+        HeraldDesk full = new HeraldDesk();
+        Kit.due("half a word at the end of the tape", Kit.read(full, "or,a" + " ".repeat(233) + "ben"), -2 - 237);
         for (String text : texts) {
             HeraldDesk desk = new HeraldDesk();
             int place = text.indexOf('|');
@@ -119,6 +121,13 @@ public final class ShieldTextTest {
         int[] eagle = {19, 2, 1, 5, 2, 1, 0, 0, 21, 5, 1, 0, 6, 0, -1, -1, -1};
         for (int i = 0; i < eagle.length; i++) {
             Kit.due("look(1, " + (10 + i) + ")", desk.look(1, 10 + i), eagle[i]);
+        }
+        String[] duties = {"a boar passant or armed vert", "a stag passant or attired vert", "a lion passant or crowned vert", "a rose or seeded vert", "a tower or masoned vert"};
+        for (String charge : duties) {
+            int k = Kit.read(desk, "or, " + charge);
+            Kit.due("how many duties of " + charge, desk.look(k, 15), 1);
+            Kit.due("the first of " + charge, desk.look(k, 16), 5);
+            Kit.due("the last of " + charge, desk.look(k, 17), 5);
         }
         String[] words = {"per pale", "per fess", "per bend", "per chevron", "per saltire", "quarterly", "paly", "barry", "bendy", "chequy"};
         for (int i = 0; i < words.length; i++) {
