@@ -51,9 +51,8 @@ public final class DrawingTest {
             compare("or, a chief sable, for difference a " + mark + " gules");
         }
         for (int kind = 16; kind <= 29; kind++) {
-            String attitude = kind < 19 ? " rampant" : kind == 19 ? " close" : "";
             for (int number = 1; number <= 6; number++) {
-                String name = Kit.NUMBERS[number - 1] + " " + (number == 1 ? Kit.KINDS[kind] : kind == 22 ? "lilies" : Kit.KINDS[kind] + "s") + attitude;
+                String name = Kit.NUMBERS[number - 1] + " " + Kit.named(kind, number) + Kit.attitude(kind);
                 compare("or, " + name + " gules");
                 compare("or, a pale azure charged with " + name + " gules, a chief sable charged with " + name + " vert");
             }
@@ -69,6 +68,8 @@ public final class DrawingTest {
         int[][] picture = paint(desk);
         int[] found = new int[9];
         for (int y = -1; y <= 72; y++) {
+            desk = new HeraldDesk();
+            Kit.read(desk, text);
             for (int x = -1; x <= 60; x++) {
                 int want = inside(x, y) ? picture[y][x] : NONE;
                 Kit.due(text + " at " + x + " " + y, desk.point(0, x, y), want);
@@ -90,9 +91,10 @@ public final class DrawingTest {
 
     private static int[][] paint(HeraldDesk desk) {
         int[][] picture = new int[72][60];
+        int[] field = {desk.look(0, 0), desk.look(0, 1), desk.look(0, 2)};
         for (int y = 0; y < 72; y++) {
             for (int x = 0; x < 60; x++) {
-                picture[y][x] = desk.look(0, second(desk.look(0, 0), x, y) ? 2 : 1);
+                picture[y][x] = second(field[0], x, y) ? field[2] : field[1];
             }
         }
         int parts = desk.look(0, 3);

@@ -19,22 +19,8 @@ public final class FamilyTest {
         Kit.end();
     }
 
-    private static HeraldDesk deskWith(int shields) {
-        HeraldDesk desk = new HeraldDesk();
-        int made = 0;
-        for (String first : Kit.TINCTURES) {
-            for (String second : Kit.TINCTURES) {
-                if (!first.equals(second) && made < shields) {
-                    Kit.read(desk, "bendy " + first + " and " + second);
-                    made++;
-                }
-            }
-        }
-        return desk;
-    }
-
     private static void adding() {
-        HeraldDesk desk = deskWith(2);
+        HeraldDesk desk = Kit.deskWith(2);
         Kit.due("no such shield", desk.person(true, NONE, NONE, 2), NONE);
         Kit.due("no such shield", desk.person(true, NONE, NONE, NONE), NONE);
         Kit.due("a man", desk.person(true, NONE, NONE, 0), 0);
@@ -56,7 +42,7 @@ public final class FamilyTest {
     }
 
     private static void marrying() {
-        HeraldDesk desk = deskWith(1);
+        HeraldDesk desk = Kit.deskWith(1);
         desk.person(true, NONE, NONE, 0);
         desk.person(false, NONE, NONE, 0);
         desk.person(true, NONE, NONE, 0);
@@ -78,7 +64,7 @@ public final class FamilyTest {
     }
 
     private static void heiresses() {
-        HeraldDesk desk = deskWith(3);
+        HeraldDesk desk = Kit.deskWith(3);
         desk.person(true, NONE, NONE, 0);
         desk.person(false, NONE, NONE, 1);
         desk.marry(0, 1);
@@ -127,7 +113,7 @@ public final class FamilyTest {
 
     /** Each son marries an heiress of a new shield: one quartering more in each generation. */
     private static void manyQuarterings() {
-        HeraldDesk desk = deskWith(40);
+        HeraldDesk desk = Kit.deskWith(40);
         int man = desk.person(true, NONE, NONE, 39);
         int generations = 0;
         for (int i = 0; desk.count(1) + 4 <= 100; i++) {
@@ -146,7 +132,7 @@ public final class FamilyTest {
 
     /** Each heiress marries a man of a new shield: his comes ahead of hers, and the oldest fall off. */
     private static void mostQuarterings() {
-        HeraldDesk desk = deskWith(45);
+        HeraldDesk desk = Kit.deskWith(45);
         int father = desk.person(true, NONE, NONE, 0);
         int mother = desk.person(false, NONE, NONE, 44);
         desk.marry(father, mother);
@@ -167,7 +153,7 @@ public final class FamilyTest {
     }
 
     private static void hundred() {
-        HeraldDesk desk = deskWith(1);
+        HeraldDesk desk = Kit.deskWith(1);
         desk.person(true, NONE, NONE, 0);
         desk.person(false, NONE, NONE, 0);
         desk.marry(0, 1);
@@ -182,7 +168,7 @@ public final class FamilyTest {
 
     /** Random families against lists gathered by recursion. */
     private static void atRandom(Random random) {
-        HeraldDesk desk = deskWith(60);
+        HeraldDesk desk = Kit.deskWith(60);
         List<int[]> people = new ArrayList<>();
         List<Integer> married = new ArrayList<>();
         for (int i = 0; i < 160; i++) {

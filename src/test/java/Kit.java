@@ -12,8 +12,16 @@ final class Kit {
 
     private static int wrong = 0;
     private static int asked = 0;
+    private static int askedBefore = 0;
+    private static String heading = "";
 
     private Kit() {
+    }
+
+    /** Names the promise and the document's words that the answers from here on hang on. */
+    static void promise(int number, String words) {
+        closeHeading();
+        heading = "promise " + number + ", \"" + words + "\": ";
     }
 
     static void due(String call, Object got, Object want) {
@@ -21,12 +29,22 @@ final class Kit {
         if (!got.equals(want)) {
             wrong++;
             if (wrong <= 20) {
-                System.out.println(call + " answered " + got + ", due is " + want);
+                System.out.println(heading + call + " answered " + got + ", due is " + want);
             }
         }
     }
 
+    /** A heading without an answer behind it tests nothing. */
+    private static void closeHeading() {
+        if (!heading.isEmpty() && asked == askedBefore) {
+            wrong++;
+            System.out.println(heading + "nothing was asked");
+        }
+        askedBefore = asked;
+    }
+
     static void end() {
+        closeHeading();
         System.out.println(asked + " answers, " + wrong + " not as due");
         System.exit(wrong == 0 && asked > 0 ? 0 : 1);
     }
@@ -52,6 +70,31 @@ final class Kit {
         return desk.pack(office, text.length());
     }
 
+    /** Each text, on a desk of its own, is a shield. */
+    static void taken(String... texts) {
+        for (String text : texts) {
+            due("read " + text, read(new HeraldDesk(), text), 0);
+        }
+    }
+
+    /** Each text, on a desk of its own, is refused as a shield at the place of its bar, which is taken out. */
+    static void refused(String... texts) {
+        for (String text : texts) {
+            HeraldDesk desk = new HeraldDesk();
+            due("read " + text, read(desk, text.replace("|", "")), -2 - text.indexOf('|'));
+            due("SHIELDS behind it", desk.count(0), 0);
+        }
+    }
+
+    /** Likewise as a pack of office 1. */
+    static void refusedPack(String... texts) {
+        for (String text : texts) {
+            HeraldDesk desk = new HeraldDesk();
+            due("pack " + text, pack(desk, 1, text.replace("|", "")), -2 - text.indexOf('|'));
+            due("BODIES behind it", desk.count(4), 0);
+        }
+    }
+
     static String written(HeraldDesk desk, int k) {
         int length = desk.write(k);
         StringBuilder text = new StringBuilder();
@@ -66,10 +109,29 @@ final class Kit {
         return words[random.nextInt(words.length)];
     }
 
+    /** A kind's name behind a number: "lion" or "lions". */
+    static String named(int kind, int number) {
+        return number == 1 ? KINDS[kind] : kind == 22 ? "lilies" : KINDS[kind] + "s";
+    }
+
+    /** An attitude that a kind may have, with a blank ahead of it, or nothing. */
+    static String attitude(int kind) {
+        return kind >= 16 && kind <= 18 ? " rampant" : kind == 19 ? " close" : "";
+    }
+
+    /** A desk with so many shields, each of two tinctures and told in three calls. */
+    static HeraldDesk deskWith(int shields) {
+        HeraldDesk desk = new HeraldDesk();
+        for (int i = 0; i < shields; i++) {
+            read(desk, "quarterly " + TINCTURES[i / 8] + " and " + TINCTURES[i % 8 < i / 8 ? i % 8 : i % 8 + 1]);
+        }
+        return desk;
+    }
+
     static String charges(Random random) {
         int number = 1 + random.nextInt(6);
         int kind = 16 + random.nextInt(14);
-        String name = number == 1 ? KINDS[kind] : kind == 22 ? "lilies" : KINDS[kind] + "s";
+        String name = named(kind, number);
         String attitude = kind <= 18 ? pick(random, " rampant", " passant", " sejant") : kind == 19 ? pick(random, " displayed", " close") : "";
         StringBuilder text = new StringBuilder(NUMBERS[number - 1] + " " + name + attitude + " " + pick(random, TINCTURES));
         String duties = kind == 16 || kind == 19 ? "armed crowned" : kind == 17 ? "armed" : kind == 18 ? "attired" : kind == 21 ? "seeded" : kind == 29 ? "masoned" : "";
