@@ -5,8 +5,13 @@ import java.lang.reflect.Method;
 import java.lang.reflect.Modifier;
 import java.nio.file.Files;
 import java.nio.file.Path;
+import java.util.ArrayList;
+import java.util.List;
 import java.util.Random;
+import java.util.Set;
 import java.util.TreeSet;
+import java.util.regex.Matcher;
+import java.util.regex.Pattern;
 
 /** The face and what can be seen of LANGUAGE.md, and calls with any arguments in any state. */
 public final class FaceTest {
@@ -14,7 +19,10 @@ public final class FaceTest {
 
     public static void main(String[] args) throws IOException {
         members();
+        shapes();
         source();
+        lengths();
+        names();
         for (int seed = 0; seed < 400; seed++) {
             anything(new Random(seed));
         }
@@ -48,8 +56,66 @@ public final class FaceTest {
         Kit.due("final", Modifier.isFinal(HeraldDesk.class.getModifiers()), true);
     }
 
+    private static List<Class<?>> classes() {
+        List<Class<?>> all = new ArrayList<>(List.of(HeraldDesk.class.getDeclaredClasses()));
+        all.add(HeraldDesk.class);
+        return all;
+    }
+
+    /** Rules 3, 5 and 11: at most seven parameters, and static fields that are constants. */
+    private static void shapes() {
+        Set<Class<?>> constants = Set.of(int.class, long.class, boolean.class, char.class, String.class, int[].class, long[].class, char[].class, byte[].class);
+        for (Class<?> one : classes()) {
+            for (Method method : one.getDeclaredMethods()) {
+                Kit.due(method + " takes few", method.getParameterCount() <= 7, true);
+            }
+            for (Constructor<?> constructor : one.getDeclaredConstructors()) {
+                Kit.due(constructor + " takes few", constructor.getParameterCount() <= 7, true);
+            }
+            for (Field field : one.getDeclaredFields()) {
+                boolean constant = Modifier.isFinal(field.getModifiers()) && constants.contains(field.getType());
+                Kit.due(field + " is a constant if it is static", !Modifier.isStatic(field.getModifiers()) || constant, true);
+            }
+        }
+    }
+
+    /** The source without its comments and the insides of its texts. */
+    private static String code() throws IOException {
+        return Files.readString(Path.of("src/main/java/HeraldDesk.java")).replaceAll("(?s)/\\*.*?\\*/", "").replaceAll("\"[^\"]*\"", "\"\"");
+    }
+
+    /** Rule 11: a block that stands where methods stand has at most sixty lines. */
+    private static void lengths() throws IOException {
+        String[] lines = code().split("\n");
+        for (int i = 0; i < lines.length; i++) {
+            boolean opens = lines[i].matches(" {4}( {4})?\\S.*\\) \\{");
+            String closing = opens ? lines[i].replaceAll("\\S.*", "}") : "";
+            int end = i;
+            while (opens && end < lines.length && !lines[end].equals(closing)) {
+                end++;
+            }
+            Kit.due("lines from " + lines[i].trim(), end - i <= 60, true);
+        }
+    }
+
+    /** Rule 4: no class of the library but String and Math (and none has to be made to join texts). */
+    private static void names() throws IOException {
+        TreeSet<String> known = new TreeSet<>(List.of("String", "Math"));
+        for (Class<?> one : classes()) {
+            known.add(one.getSimpleName());
+        }
+        Matcher name = Pattern.compile("\\b[A-Z]\\w*[a-z]\\w*\\b").matcher(code());
+        TreeSet<String> used = new TreeSet<>();
+        while (name.find()) {
+            used.add(name.group());
+        }
+        used.removeAll(known);
+        Kit.due("other names", used.toString(), "[]");
+        Kit.due("joined texts", code().contains("\" +") || code().contains("+ \""), false);
+    }
+
     private static void source() throws IOException {
-        String code = Files.readString(Path.of("src/main/java/HeraldDesk.java")).replaceAll("(?s)/\\*.*?\\*/", "").replaceAll("\"[^\"]*\"", "\"\"");
+        String code = code();
         for (String word : "throw try catch synchronized assert import package protected instanceof".split(" ")) {
             Kit.due("the word " + word, code.matches("(?s).*\\b" + word + "\\b.*"), false);
         }

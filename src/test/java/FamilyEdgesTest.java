@@ -130,8 +130,12 @@ public final class FamilyEdgesTest {
             Kit.due("mother " + none, desk.person(MAN, 0, none, 0), NONE);
             Kit.due("both " + none, desk.person(MAN, none, none, 0), NONE);
         }
+        for (int none : new int[] {NONE, -2, 4, 99, MIN, MAX}) {
+            Kit.due("a man who is not married and mother " + none, desk.person(MAN, 2, none, 0), NONE);
+            Kit.due("a woman who is not married and father " + none, desk.person(MAN, none, 3, 0), NONE);
+        }
         Kit.due("PERSONS", desk.count(1), 4);
-        Kit.due("children", desk.family(0, 5), 0);
+        Kit.due("children", desk.family(0, 5) + desk.family(1, 5) + desk.family(2, 5) + desk.family(3, 5), 0);
     }
 
     private static void manAndWoman() {

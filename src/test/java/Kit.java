@@ -15,6 +15,13 @@ final class Kit {
     private static int askedBefore = 0;
     private static String heading = "";
 
+    static {
+        Thread.setDefaultUncaughtExceptionHandler((thread, thrown) -> {
+            System.out.println(heading + "a call threw");
+            thrown.printStackTrace();
+        });
+    }
+
     private Kit() {
     }
 

@@ -13,6 +13,7 @@ public final class PointEdgesTest {
         ordinaries();
         chief();
         bordure();
+        sides();
         boxesOnTheField();
         boxesOnTheChief();
         boxesOnOrdinaries();
@@ -131,6 +132,17 @@ public final class PointEdgesTest {
         }
         Kit.due("none outside", desk.point(0, 27, 71), NONE);
         Kit.due("the tip", desk.point(0, 28, 71), 2);
+    }
+
+    private static void sides() {
+        Kit.promise(12, "CHARGES have a box for each: side 16 (n = 1), 12 (2, 3), 10 (4 to 6)");
+        int[] sides = {0, 16, 12, 12, 10, 10, 10};
+        int[] middles = {0, 0, 20, 20, 20, 20, 24};
+        for (int n = 1; n <= 6; n++) {
+            String text = "or, " + Kit.NUMBERS[n - 1] + " " + Kit.named(16, n) + " rampant gules";
+            int v = n < 3 ? 1 : -29;
+            edges(text, middles[n] + sides[n] - 1, v, middles[n] + sides[n] + 1, v, 1 - middles[n] - sides[n], v, -1 - middles[n] - sides[n], v);
+        }
     }
 
     /** Lions fill their boxes: first and last u and v of each, over all points of the shield. */

@@ -29,6 +29,7 @@ public final class RuleEdgesTest {
         emptyThen();
         inPlaceOfAll();
         fullTape();
+        manyFullTapes();
         twelveBodies();
         nineOpen();
     }
@@ -143,6 +144,19 @@ public final class RuleEdgesTest {
         Kit.due("refused at the last byte", Kit.pack(desk, 0, full.replace(";", ")")), -2 - 239);
         Kit.due("refused at the end", Kit.pack(desk, 0, "rule" + " ".repeat(236)), -2 - 240);
         Kit.due("the body stays", desk.judge(0, 0, 0), 111);
+    }
+
+    /** What an office had before takes no room from what it has now, and neither does what was refused. */
+    private static void manyFullTapes() {
+        Kit.promise(4, "in place of all its BODIES before");
+        HeraldDesk desk = new HeraldDesk();
+        Kit.read(desk, "or, a lion rampant or");
+        for (int i = 1; i <= 9; i++) {
+            String full = "rule 0 for lion: " + (i + "+").repeat(110) + i + " ;";
+            Kit.due("refused at the end", Kit.pack(desk, 0, full.replace(";", "+")), -2 - 240);
+            Kit.due("a full tape again", Kit.pack(desk, 0, full), 1);
+            Kit.due("its number", desk.judge(0, 0, 0), 111 * i);
+        }
     }
 
     private static void twelveBodies() {
@@ -362,6 +376,11 @@ public final class RuleEdgesTest {
         Kit.pack(desk, 1, "rule 1 for chief: next + 5; rule 1 for lion: next + 7;");
         Kit.due("without", desk.part(0, 1, 1, 1), 5);
         Kit.due("the common one of charges", desk.part(0, 0, 1, 1), 7);
+        Kit.pack(desk, 1, "rule 1 for part: next + 5; rule 1 for charge: next * 10;");
+        Kit.due("without, at the top", desk.part(0, 1, 1, 1), 5);
+        Kit.due("begun", desk.ran(), 1);
+        Kit.due("the common one between", desk.part(0, 0, 1, 1), 0);
+        Kit.due("begun", desk.ran(), 2);
         Kit.pack(desk, 1, "rule 3 for lion: next * 10 + 1; rule 3 for beast: next * 10 + 2; rule 3 for charge: next * 10 + 3; rule 3 for part: next * 10 + 4;");
         Kit.due("all four, and the common one at the top", desk.part(0, 0, 3, 1), 14321);
         Kit.due("a chief: the common one of ordinaries between", desk.part(0, 1, 3, 1), 15);

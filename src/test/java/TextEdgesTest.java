@@ -182,7 +182,9 @@ public final class TextEdgesTest {
         Kit.promise(3, "PARTING: per, and 1 pale, 2 fess, 3 bend, 4 chevron, 5 saltire; or 6 quarterly, 7 paly, 8 barry, 9 bendy, 10 chequy.");
         HeraldDesk desk = new HeraldDesk();
         for (int i = 0; i < 10; i++) {
-            Kit.due("parting", desk.look(Kit.read(desk, Kit.PARTINGS[i] + " vair and or"), 0), i + 1);
+            int k = Kit.read(desk, Kit.PARTINGS[i] + " vair and or");
+            Kit.due("parting", desk.look(k, 0), i + 1);
+            Kit.due("written", Kit.written(desk, k), Kit.PARTINGS[i] + " vair and or");
         }
         Kit.refused("per |cross or and vert", "per |pile or and vert", "per |chief or and vert", "per |or and vert", "per |quarterly or and vert", "per |paly or and vert",
             "per |per pale or and vert", "|pale or and vert", "|saltire or and vert", "quarterly |pale or and vert", "or |and vert", "per pale |and vert", "per pale or |vert",
@@ -324,6 +326,7 @@ public final class TextEdgesTest {
                     HeraldDesk desk = new HeraldDesk();
                     int k = Kit.read(desk, text + DUTIES[duty] + " vair");
                     Kit.due(text + DUTIES[duty], desk.look(k, 16), 8);
+                    Kit.due("the last of one", desk.look(k, 17), 8);
                     Kit.refused(text + DUTIES[duty] + "|", text + DUTIES[duty] + " |" + DUTIES[duty], text + DUTIES[duty] + "|, a chief or");
                 } else {
                     Kit.refused(text + "|" + DUTIES[duty] + " vair");
@@ -347,6 +350,8 @@ public final class TextEdgesTest {
     private static void order() {
         partsThereOrNot();
         partsInOrder();
+        behindAllParts();
+        noWordLeftOut();
         onAlone();
     }
 
@@ -391,6 +396,22 @@ public final class TextEdgesTest {
         }
         Kit.refused("|, or", "|,", "or,|, a fess or", "or |a", "or |or", "or, |or", "or, |per pale or and vert", "or, within |bordure or", "or, |bordure or",
             "or, within a |fess or", "or, a fess|, or", "or, a |bordure or");
+    }
+
+    private static void behindAllParts() {
+        Kit.promise(3, "at which no SHIELD could go on");
+        String all = "or, a fess or charged with a rose or, a rose or, a chief or charged with a rose or, within a bordure or, for difference a rose or";
+        Kit.taken(all, all + "  ");
+        Kit.refused(all + "|,", all + " |or", all + " |a rose or", all + "|!", all + "|, for difference a rose or", all + " |charged with a rose or", all + " |seeded or", all + "   |or  ");
+    }
+
+    private static void noWordLeftOut() {
+        Kit.promise(3, "THE TEXT: words of small letters");
+        Kit.refused("or, |fess or", "or, a |or", "or, |lion rampant or", "or, two |or", "or, two |rampant or", "or, a |rampant or", "or, a lion |or", "or, a fess or |with a rose or",
+            "or, a fess or charged |a rose or", "or, a fess or charged with |rose or", "or, a fess or charged with a |or", "or, a fess or charged with |or", "or, |chief or", "or, a chief |charged with a rose or",
+            "or, within |or", "or, within a |or", "or, within |bordure or", "or, a |bordure or", "or, for |or", "or, for difference |or", "or, for difference a |or", "or, for difference |rose or",
+            "or, for |a rose or", "or, |difference a rose or", "per |or and vert", "|fess or and vert", "per fess |and vert", "per fess or |vert", "per fess or and|", "or |a fess or", "or |two roses or",
+            "or, a fess or |two roses or", "or, a rose or |within a bordure or", "or, a rose or |for difference a rose or", "or |a chief or");
     }
 
     private static void onAlone() {
@@ -464,6 +485,7 @@ public final class TextEdgesTest {
         Kit.due("but for its last word", desk.read(236), -2 - 236);
         Kit.feed(desk, LONGEST);
         Kit.due("whole", desk.read(240), 0);
+        Kit.refused("or, a" + " ".repeat(232) + "|fes", "or, a" + " ".repeat(231) + "fess|", "paly or and" + " ".repeat(226) + "|ver", " ".repeat(239) + "|o", "or" + " ".repeat(237) + "|o");
     }
 
     private static void writing() {
