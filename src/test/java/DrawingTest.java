@@ -85,18 +85,12 @@ public final class DrawingTest {
         Kit.due("points of " + text, Arrays.toString(got), Arrays.toString(found));
     }
 
-    private static boolean inside(int x, int y) {
+    static boolean inside(int x, int y) {
         return x >= 0 && x <= 59 && y >= 0 && y <= 71 && (y < 36 || Math.abs(2 * x - 59) <= 59 - Math.floorDiv((y - 36) * (y - 36), 22));
     }
 
     private static int[][] paint(HeraldDesk desk) {
-        int[][] picture = new int[72][60];
-        int[] field = {desk.look(0, 0), desk.look(0, 1), desk.look(0, 2)};
-        for (int y = 0; y < 72; y++) {
-            for (int x = 0; x < 60; x++) {
-                picture[y][x] = second(field[0], x, y) ? field[2] : field[1];
-            }
-        }
+        int[][] picture = field(desk.look(0, 0), desk.look(0, 1), desk.look(0, 2));
         int parts = desk.look(0, 3);
         for (int p = 0; p < parts; p++) {
             int from = 10 + 8 * p;
@@ -105,7 +99,17 @@ public final class DrawingTest {
         return picture;
     }
 
-    private static boolean second(int parting, int x, int y) {
+    static int[][] field(int parting, int first, int second) {
+        int[][] picture = new int[72][60];
+        for (int y = 0; y < 72; y++) {
+            for (int x = 0; x < 60; x++) {
+                picture[y][x] = isSecond(parting, x, y) ? second : first;
+            }
+        }
+        return picture;
+    }
+
+    private static boolean isSecond(int parting, int x, int y) {
         int u = 2 * x - 59;
         int v = 2 * y - 71;
         return switch (parting) {
@@ -123,7 +127,7 @@ public final class DrawingTest {
         };
     }
 
-    private static void paintPart(int[][] picture, int kind, int tincture, int number, int place) {
+    static void paintPart(int[][] picture, int kind, int tincture, int number, int place) {
         int side = place == 6 ? 8 : number == 1 ? 16 : number < 4 ? 12 : 10;
         for (int y = 0; y < 72; y++) {
             for (int x = 0; x < 60; x++) {

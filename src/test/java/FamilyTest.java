@@ -145,7 +145,10 @@ public final class FamilyTest {
             for (int i = 0; i < want.length; i++) {
                 want[i] = shield - i;
             }
-            quarterings(desk, heiress, want);
+            Kit.due("how many", desk.family(heiress, 0), want.length);
+            if (shield == 31 || shield == 32 || shield == 43) {
+                quarterings(desk, heiress, want);
+            }
         }
         int son = desk.person(true, desk.family(heiress - 2, 4), heiress - 2, NONE);
         Kit.due("a brother of the last heiress", desk.family(heiress, 1), 0);
@@ -166,9 +169,10 @@ public final class FamilyTest {
         Kit.due("children", desk.family(0, 5), 98);
     }
 
-    /** Random families against lists gathered by recursion. */
+    /** Random families against lists gathered by recursion; a desk has no more than 512 calls. */
     private static void atRandom(Random random) {
-        HeraldDesk desk = Kit.deskWith(60);
+        HeraldDesk desk = Kit.deskWith(30);
+        int calls = 30 * 3;
         List<int[]> people = new ArrayList<>();
         List<Integer> married = new ArrayList<>();
         for (int i = 0; i < 160; i++) {
@@ -177,7 +181,7 @@ public final class FamilyTest {
             int b = people.isEmpty() ? 0 : random.nextInt(people.size());
             if (random.nextInt(3) == 0 || people.size() < 2) {
                 boolean can = people.size() < 100;
-                int shield = random.nextInt(60);
+                int shield = random.nextInt(30);
                 Kit.due("founder", desk.person(man, NONE, NONE, shield), can ? people.size() : NONE);
                 if (can) {
                     people.add(new int[] {man ? 1 : 0, NONE, NONE, shield});
@@ -199,16 +203,21 @@ public final class FamilyTest {
                     married.set(b, a);
                 }
             }
-            if (!people.isEmpty()) {
-                check(desk, people, random.nextInt(people.size()));
+            calls++;
+            int asked = people.isEmpty() ? 0 : random.nextInt(people.size());
+            int needed = people.isEmpty() ? 0 : gathered(people, asked).size() + 5;
+            if (needed > 0 && i % 4 == 0 && calls + needed + 160 - i <= 512) {
+                check(desk, people, asked);
+                calls += needed;
             }
         }
     }
 
+    /** Five calls, and one for each quartering. */
     private static void check(HeraldDesk desk, List<int[]> people, int p) {
         List<Integer> want = gathered(people, p);
         Kit.due("how many of " + p, desk.family(p, 0), want.size());
-        for (int i = 0; i < 34; i++) {
+        for (int i = 0; i <= want.size(); i++) {
             Kit.due("quartering", desk.family(p, 100 + i), i < want.size() ? want.get(i) : NONE);
         }
         Kit.due("heiress", desk.family(p, 1), heiress(people, p) ? 1 : 0);
@@ -224,7 +233,7 @@ public final class FamilyTest {
         Kit.due("children", desk.family(p, 5), children);
     }
 
-    private static boolean heiress(List<int[]> people, int p) {
+    static boolean heiress(List<int[]> people, int p) {
         int[] one = people.get(p);
         if (one[0] == 1 || one[1] == NONE) {
             return false;
@@ -237,7 +246,7 @@ public final class FamilyTest {
         return true;
     }
 
-    private static List<Integer> gathered(List<int[]> people, int p) {
+    static List<Integer> gathered(List<int[]> people, int p) {
         int[] one = people.get(p);
         if (one[1] == NONE) {
             return new ArrayList<>(List.of(one[3]));

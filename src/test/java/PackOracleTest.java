@@ -5,14 +5,14 @@ import java.util.TreeMap;
 
 /** Promises 4, 8, 9, 10 and 11 with random packs: a walk over tokens tells the place, trees tell the numbers. */
 public final class PackOracleTest {
-    private static final String[] VALUES = {"sort", "below", "tincture", "number", "attitude", "duties", "kind", "place", "next"};
+    static final String[] VALUES = {"sort", "below", "tincture", "number", "attitude", "duties", "kind", "place", "next"};
     private static final String SHIELD = "gules, a bend or charged with two stags passant vert attired or, a rose azure seeded vert, "
         + "a chief ermine charged with a eagle close sable armed or crowned vert, within a bordure vair, for difference a label or";
 
-    private static int begun;
+    static int begun;
 
     /** A tree: a leaf with a word or number, or a sign with two branches. */
-    private record Tree(String sign, Tree left, Tree right) {
+    record Tree(String sign, Tree left, Tree right) {
         String text(Random random) {
             if (left == null) {
                 return sign;
@@ -33,7 +33,7 @@ public final class PackOracleTest {
         Kit.end();
     }
 
-    private static Tree tree(Random random, int depth) {
+    static Tree tree(Random random, int depth) {
         if (depth == 0 || random.nextInt(3) == 0) {
             String leaf = random.nextInt(4) == 0 ? "" + random.nextInt(10000) : random.nextInt(3) == 0 ? "next" : Kit.pick(random, VALUES);
             return new Tree(leaf, null, null);
@@ -64,7 +64,7 @@ public final class PackOracleTest {
             int all = 0;
             for (int p = 0; p < 7; p++) {
                 begun = 0;
-                int want = ask(desk, p, rule, own, desk.look(0, 10 + 8 * p), true);
+                int want = ask(values(desk, p), rule, own, desk.look(0, 10 + 8 * p), true);
                 Kit.due(text + " rule " + rule + " part " + p, desk.part(0, p, rule, office), want);
                 Kit.due("begun", desk.ran(), begun);
                 sum += want;
@@ -92,7 +92,7 @@ public final class PackOracleTest {
         };
     }
 
-    private static int choice(TreeMap<Integer, Tree> own, int kind, int rule) {
+    static int choice(TreeMap<Integer, Tree> own, int kind, int rule) {
         for (int k = kind; k >= 0; k = Kit.FAMILY[k]) {
             if (own.containsKey(rule * 32 + k)) {
                 return k + 32;
@@ -104,29 +104,43 @@ public final class PackOracleTest {
         return HeraldDesk.NONE;
     }
 
-    private static int ask(HeraldDesk desk, int p, int rule, TreeMap<Integer, Tree> own, int kind, boolean withOwn) {
+    /** What the words ahead of next give for part p of the shield. */
+    private static int[] values(HeraldDesk desk, int p) {
+        int[] sorts = {1, 1, 2, 2, 2, 2, 2, 0, 0};
+        int[] below = {2, 1, 2, 2, 0, 2, 2};
+        int from = 10 + 8 * p;
+        int tincture = desk.look(0, from + 1);
+        return new int[] {sorts[tincture], below[p], tincture, desk.look(0, from + 2), desk.look(0, from + 3), desk.look(0, from + 5), desk.look(0, from), desk.look(0, from + 4)};
+    }
+
+    /** The number of a part that has these values, asked for from a kind on, with the office's own body of it or without. */
+    static int ask(int[] values, int rule, TreeMap<Integer, Tree> own, int kind, boolean withOwn) {
         boolean ownToo = withOwn;
         for (int k = kind; k >= 0; k = Kit.FAMILY[k]) {
             if (ownToo && own.containsKey(rule * 32 + k)) {
                 begun++;
-                return value(own.get(rule * 32 + k), desk, p, rule, own, k, false);
+                return value(own.get(rule * 32 + k), values, rule, own, k, false);
             }
             ownToo = true;
             if (common(rule, k) != null) {
                 begun++;
-                return value(common(rule, k), desk, p, rule, own, Kit.FAMILY[k], true);
+                return value(common(rule, k), values, rule, own, Kit.FAMILY[k], true);
             }
         }
         return 0;
     }
 
-    /** A tree's value; next is asked for from a kind on, with the office's own body of it or without. */
-    private static int value(Tree tree, HeraldDesk desk, int p, int rule, TreeMap<Integer, Tree> own, int nextKind, boolean withOwn) {
+    /** A tree's value; next is asked for from a kind on. */
+    private static int value(Tree tree, int[] values, int rule, TreeMap<Integer, Tree> own, int nextKind, boolean withOwn) {
         if (tree.left() == null) {
-            return leaf(tree.sign(), desk, p, rule, own, nextKind, withOwn);
+            int word = List.of(VALUES).indexOf(tree.sign());
+            if (word < 0) {
+                return Integer.parseInt(tree.sign());
+            }
+            return word < values.length ? values[word] : ask(values, rule, own, nextKind, withOwn);
         }
-        int left = value(tree.left(), desk, p, rule, own, nextKind, withOwn);
-        int right = value(tree.right(), desk, p, rule, own, nextKind, withOwn);
+        int left = value(tree.left(), values, rule, own, nextKind, withOwn);
+        int right = value(tree.right(), values, rule, own, nextKind, withOwn);
         return switch (tree.sign()) {
             case "+" -> left + right;
             case "-" -> left - right;
@@ -137,25 +151,20 @@ public final class PackOracleTest {
         };
     }
 
-    private static int leaf(String word, HeraldDesk desk, int p, int rule, TreeMap<Integer, Tree> own, int nextKind, boolean withOwn) {
-        int[] sorts = {1, 1, 2, 2, 2, 2, 2, 0, 0};
-        int[] below = {2, 1, 2, 2, 0, 2, 2};
-        int from = 10 + 8 * p;
-        return switch (word) {
-            case "sort" -> sorts[desk.look(0, from + 1)];
-            case "below" -> below[p];
-            case "tincture" -> desk.look(0, from + 1);
-            case "number" -> desk.look(0, from + 2);
-            case "attitude" -> desk.look(0, from + 3);
-            case "duties" -> desk.look(0, from + 5);
-            case "kind" -> desk.look(0, from);
-            case "place" -> desk.look(0, from + 4);
-            case "next" -> ask(desk, p, rule, own, nextKind, withOwn);
-            default -> Integer.parseInt(word);
-        };
+    private static void places(Random random) {
+        Laid laid = laid(random);
+        if (laid.text().length() <= 240) {
+            HeraldDesk desk = new HeraldDesk();
+            int want = laid.refused() < 0 ? laid.bodies() : -2 - laid.refused();
+            Kit.due("[" + laid.text() + "]", Kit.pack(desk, 1, laid.text()), want);
+        }
     }
 
-    private static void places(Random random) {
+    /** A text that is a pack or nearly one: the place at which it is refused (below 0: none), and how often it has the word rule. */
+    record Laid(String text, int refused, int bodies) {
+    }
+
+    static Laid laid(Random random) {
         List<String> tokens = new ArrayList<>();
         int bodies = random.nextInt(4);
         for (int i = 0; i < bodies; i++) {
@@ -182,12 +191,9 @@ public final class PackOracleTest {
             text.append(token);
         }
         starts.add(text.length());
-        if (text.length() <= 240) {
-            HeraldDesk desk = new HeraldDesk();
-            int refused = refusedToken(tokens);
-            int want = refused < 0 ? (int) tokens.stream().filter("rule"::equals).count() : -2 - starts.get(refused);
-            Kit.due("[" + text + "]", Kit.pack(desk, 1, text.toString()), want);
-        }
+        int refused = refusedToken(tokens);
+        int told = (int) tokens.stream().filter("rule"::equals).count();
+        return new Laid(text.toString(), refused < 0 ? refused : starts.get(refused), told);
     }
 
     private static void expression(List<String> tokens, Random random, int depth) {

@@ -41,7 +41,7 @@ public final class ShieldOracleTest {
     }
 
     /** 0, or -2 less the first place of a token behind which no match could go on. */
-    private static int answer(String text) {
+    static int answer(String text) {
         Matcher token = Pattern.compile("[a-z]+|[^ ]").matcher(text);
         StringBuilder sofar = new StringBuilder();
         while (token.find()) {
@@ -80,7 +80,7 @@ public final class ShieldOracleTest {
             + "|(?:martlet" + s + "|" + lily + "|trefoil" + s + "|mullet" + s + "|crescent" + s + "|annulet" + s + "|roundel" + s + "|billet" + s + ") " + T + ")";
     }
 
-    private static List<String> tokensOf(String text) {
+    static List<String> tokensOf(String text) {
         List<String> tokens = new ArrayList<>();
         Matcher token = Pattern.compile("[a-z]+|[^ ]").matcher(text);
         while (token.find()) {
@@ -89,7 +89,7 @@ public final class ShieldOracleTest {
         return tokens;
     }
 
-    private static List<String> changed(List<String> tokens, Random random) {
+    static List<String> changed(List<String> tokens, Random random) {
         int changes = random.nextInt(3);
         for (int i = 0; i < changes && !tokens.isEmpty(); i++) {
             int at = random.nextInt(tokens.size());
@@ -103,7 +103,7 @@ public final class ShieldOracleTest {
         return tokens;
     }
 
-    private static String spaced(List<String> tokens, Random random) {
+    static String spaced(List<String> tokens, Random random) {
         StringBuilder text = new StringBuilder(" ".repeat(random.nextInt(2)));
         String before = ",";
         for (String token : tokens) {
